@@ -597,9 +597,12 @@ public final class QueryPushCompiler {
         int rows = listHeight[left];
         int kind = nodeChoice[node];
         for (int row = 0; row < rows; row++) {
-            if (kind == INNER || kind == OUTER) {
+            boolean matched = hasMatch(node, row);
+            if (matched && (kind == INNER || kind == OUTER)) {
                 appendPairs(node, row);
-            } else if (hasMatch(node, row) == (kind == SEMI)) {
+            } else if (!matched && kind == OUTER) {
+                appendWithZeros(node, row);
+            } else if (matched ? kind == SEMI : kind == ANTI) {
                 appendRow(node, left, row);
             }
         }
@@ -610,18 +613,13 @@ public final class QueryPushCompiler {
         int right = nodeRight[node];
         int rows = listHeight[right];
         int key = listCell(left, leftRow, nodeColumnA[node]);
-        boolean matched = false;
         for (int row = 0; row < rows; row++) {
             int rightKey = listCell(right, row, nodeColumnB[node]);
             if (rightKey == key) {
                 copyRow(left, leftRow, node, listHeight[node], 0);
                 copyRow(right, row, node, listHeight[node], nodeWidth[left]);
                 listHeight[node]++;
-                matched = true;
             }
-        }
-        if (!matched && nodeChoice[node] == OUTER) {
-            appendWithZeros(node, leftRow);
         }
     }
 
@@ -631,7 +629,8 @@ public final class QueryPushCompiler {
         for (int column = nodeWidth[left]; column < columns; column++) {
             putCell(node, listHeight[node], column, 0);
         }
-        appendRow(node, left, leftRow);
+        copyRow(left, leftRow, node, listHeight[node], 0);
+        listHeight[node]++;
     }
 
     private boolean hasMatch(int node, int leftRow) {

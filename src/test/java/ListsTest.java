@@ -25,6 +25,7 @@ public final class ListsTest {
         groupWraps();
         groupKeysMayBeValues();
         distinctLooksAtEveryColumn();
+        distinctLooksAtNoColumnOfAnOlderPlan();
         limitTakesTheFirst();
         sortIsStable();
         sortIsSigned();
@@ -191,6 +192,18 @@ public final class ListsTest {
         due.list("left 1, right 1", x, 5, 2, Due.row(5, 1), Due.row(1, 5));
         x.setCell(1, 0, 1, 0);
         due.list("left 1, right 1 of today", x, 5, 2, Due.row(5, 1));
+        semiAndAntiUseTheKeyColumnsOfTheirSides();
+    }
+
+    private static void semiAndAntiUseTheKeyColumnsOfTheirSides() {
+        QueryPushCompiler x = with(2, Due.row(1, 7), Due.row(2, 8), Due.row(3, 1));
+        fill(x, 1, Due.row(8, 1), Due.row(9, 3));
+        int semi = x.join(0, x.scan(1), 1 << 3, SEMI);
+        due.list("semi, left 0, right 1", x, semi, 2, Due.row(1, 7), Due.row(3, 1));
+        int anti = x.join(x.scan(0), x.scan(1), 1 << 3, ANTI);
+        due.list("anti, left 0, right 1", x, anti, 2, Due.row(2, 8));
+        int other = x.join(x.scan(0), x.scan(1), 1, SEMI);
+        due.list("semi, left 1, right 0", x, other, 2, Due.row(2, 8));
     }
 
     private static void joinWithNothing() {
@@ -290,6 +303,18 @@ public final class ListsTest {
         due.list("of fewer columns", x, 3, 1, Due.row(1), Due.row(2), Due.row(0));
     }
 
+    private static void distinctLooksAtNoColumnOfAnOlderPlan() {
+        QueryPushCompiler x = with(2, Due.row(1, 4), Due.row(1, 5));
+        x.map(0, QueryPushCompiler.ADD, 1, 1);
+        due.list("older plan", x, 1, 3, Due.row(1, 4, 8), Due.row(1, 5, 10));
+        x.clearPlan();
+        x.setCell(0, 1, 1, 4);
+        x.scan(0);
+        x.limit(0, 5);
+        x.distinct(1);
+        due.list("newer plan", x, 2, 2, Due.row(1, 4));
+    }
+
     private static void limitTakesTheFirst() {
         int[] asked = {LOW, -1, 0, 1, 2, 3, 4, 25, HIGH};
         int[] taken = {0, 0, 0, 1, 2, 3, 3, 3, 3};
@@ -343,6 +368,7 @@ public final class ListsTest {
         x.scan(0);
         x.distinct(0);
         x.limit(1, 2);
-        due.list("a new plan", x, 2, 2, Due.row(1, 4), Due.row(2, 3));
+        due.list("a new plan's distinct", x, 1, 2, Due.row(1, 4), Due.row(2, 3), Due.row(3, 2));
+        due.list("a new plan's limit", x, 2, 2, Due.row(1, 4), Due.row(2, 3));
     }
 }

@@ -17,12 +17,14 @@ public final class RunTest {
         aNewResultReplacesAllOfTheOldOne();
         cellOutsideTheResult();
         boundOfEveryJoinAndUnion();
+        boundOfJoinsUnderAJoin();
         boundOfOneChildIsTheChilds();
         boundOfLimit();
         aTooBigChildMakesEveryKindTooBig();
         aTooBigNodeBesideDoesNotMatter();
         theBoundIsThatOfNow();
         aListOfTwentyFourRowsAndSixColumns();
+        everyKindAsTheLastNodeOfTwentyFourRows();
         due.end();
     }
 
@@ -154,6 +156,38 @@ public final class RunTest {
         QueryPushCompiler x = sized(left, right);
         x.join(0, 1, 0, kind);
         return x.run(2);
+    }
+
+    /** A join whose bound shows in that of the INNER join over it and a third list. */
+    private static int joinUnderJoin(int left, int right, int kind, int third) {
+        QueryPushCompiler x = new QueryPushCompiler(3);
+        int[] sizes = {left, right, third};
+        for (int table = 0; table < 3; table++) {
+            for (int row = 0; row < sizes[table]; row++) {
+                x.addRow(table, 0, row, 0);
+            }
+            x.scan(table);
+        }
+        x.join(0, 1, 0, kind);
+        x.join(3, 2, 0, INNER);
+        return x.run(4);
+    }
+
+    private static void boundOfJoinsUnderAJoin() {
+        due.answer("inner 3 * 2 * 4", joinUnderJoin(3, 2, INNER, 4), 24);
+        due.answer("inner 3 * 2 * 5", joinUnderJoin(3, 2, INNER, 5), TOO_BIG);
+        due.answer("outer 3 * 2 * 4", joinUnderJoin(3, 2, OUTER, 4), 24);
+        due.answer("outer 3 * 2 * 5", joinUnderJoin(3, 2, OUTER, 5), TOO_BIG);
+        due.answer("inner 5 * 0 * 5", joinUnderJoin(5, 0, INNER, 5), 0);
+        due.answer("outer 5 * 1 * 4", joinUnderJoin(5, 0, OUTER, 4), 20);
+        due.answer("outer 5 * 1 * 5", joinUnderJoin(5, 0, OUTER, 5), TOO_BIG);
+        due.answer("outer 0 * 5 * 5", joinUnderJoin(0, 5, OUTER, 5), 0);
+        due.answer("semi 4 * 6", joinUnderJoin(4, 10, SEMI, 6), 24);
+        due.answer("semi 5 * 5", joinUnderJoin(5, 1, SEMI, 5), TOO_BIG);
+        due.answer("semi of nothing, 5 * 5", joinUnderJoin(5, 0, SEMI, 5), TOO_BIG);
+        due.answer("anti of nothing, 4 * 6", joinUnderJoin(4, 0, ANTI, 6), 24);
+        due.answer("anti 4 * 6", joinUnderJoin(4, 10, ANTI, 6), 0);
+        due.answer("anti 5 * 5", joinUnderJoin(5, 1, ANTI, 5), TOO_BIG);
     }
 
     /** Each of these lists is shorter than its child's, but its bound is not. */
@@ -307,5 +341,44 @@ public final class RunTest {
         due.list("all", x, 11, 6, want);
         due.answer("behind the last row", x.cell(24, 0), 0);
         due.answer("behind the last column", x.cell(23, 6), 0);
+    }
+
+    /** Every kind where the object's room ends: node 11 with 24 rows, of 6 columns where the kind allows it. */
+    private static void everyKindAsTheLastNodeOfTwentyFourRows() {
+        for (int kind = 0; kind < 10; kind++) {
+            QueryPushCompiler x = new QueryPushCompiler(3);
+            for (int row = 0; row < 10; row++) {
+                x.addRow(0, row, 0, 0);
+                x.addRow(1, 10 + row, 0, 0);
+                if (row < 4) {
+                    x.addRow(2, 20 + row, 0, 0);
+                }
+            }
+            x.union(x.union(x.scan(0), x.scan(1)), x.scan(2));
+            x.project(4, kind == 2 ? 0 : 0_100000, kind == 2 || kind == 8 ? 5 : 6);
+            x.scan(2);
+            x.project(6, 0, 1);
+            x.limit(7, 1);
+            x.distinct(8);
+            x.sort(9, 0, true);
+            due.answer("kind " + kind, lastNode(x, kind, 5, 10), 11);
+            int width = kind == 4 ? 2 : 6;
+            due.answer("run of kind " + kind, x.run(11), 24);
+            due.answer("width of kind " + kind, x.resultWidth(), width);
+            int first = kind == 6 ? 23 : 0;
+            due.answer("first row of kind " + kind, x.cell(0, 0), first);
+            due.answer("last row of kind " + kind, x.cell(23, 0), 23 - first);
+        }
+    }
+
+    private static int lastNode(QueryPushCompiler x, int kind, int child, int other) {
+        switch (kind) {
+            case 0: return x.filter(child, 0, 5, 0);
+            case 1: return x.filterCols(child, 0, 0, 0);
+            case 3: return x.project(child, 0, 6);
+            case 8: return x.join(child, other, 0, OUTER);
+            case 9: return x.join(child, other, 5, ANTI);
+            default: return oneChild(x, kind, child);
+        }
     }
 }
