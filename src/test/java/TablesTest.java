@@ -213,8 +213,12 @@ public final class TablesTest {
         }
         for (int table = 0; table < 4; table++) {
             x.setCell(table, 9, 2, table + 1);
-            x.dropRow(table, 0);
             x.scan(table);
+        }
+        due.answer("run of the last table, full", x.run(3), 10);
+        due.answer("its last cell", x.cell(9, 2), 4);
+        for (int table = 0; table < 4; table++) {
+            x.dropRow(table, 0);
         }
         for (int table = 0; table < 4; table++) {
             due.answer("run", x.run(table), 9);
