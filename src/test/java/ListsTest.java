@@ -33,22 +33,8 @@ public final class ListsTest {
         due.end();
     }
 
-    private static QueryPushCompiler with(int width, int[]... rows) {
-        QueryPushCompiler x = new QueryPushCompiler(2);
-        x.defineTable(0, width);
-        fill(x, 0, rows);
-        x.scan(0);
-        return x;
-    }
-
-    private static void fill(QueryPushCompiler x, int table, int[]... rows) {
-        for (int[] row : rows) {
-            x.addRow(table, row[0], row.length > 1 ? row[1] : -77, row.length > 2 ? row[2] : -88);
-        }
-    }
-
     private static void scanFollowsTheTable() {
-        QueryPushCompiler x = with(2, Due.row(3, 4), Due.row(1, 2), Due.row(3, 4));
+        QueryPushCompiler x = Scenes.with(2, Due.row(3, 4), Due.row(1, 2), Due.row(3, 4));
         due.list("as it is", x, 0, 2, Due.row(3, 4), Due.row(1, 2), Due.row(3, 4));
         x.dropRow(0, 0);
         x.setCell(0, 0, 1, 9);
@@ -89,7 +75,7 @@ public final class ListsTest {
     }
 
     private static void filterKeepsWholeRows() {
-        QueryPushCompiler x = with(3, Due.row(1, 5, 9), Due.row(2, 6, 8), Due.row(3, 5, 7), Due.row(1, 5, 9));
+        QueryPushCompiler x = Scenes.with(3, Due.row(1, 5, 9), Due.row(2, 6, 8), Due.row(3, 5, 7), Due.row(1, 5, 9));
         x.filter(0, 1, 0, 5);
         due.list("by column 1", x, 1, 3, Due.row(1, 5, 9), Due.row(3, 5, 7), Due.row(1, 5, 9));
         x.filter(1, 2, 4, 7);
@@ -101,7 +87,7 @@ public final class ListsTest {
     private static void filterColsComparesSigned() {
         int[][] rows = {{1, LOW, HIGH}, {2, HIGH, LOW}, {3, 0, 0}, {4, -1, 1}, {5, 1, -1}, {6, LOW, LOW}, {7, 2, 3}};
         for (int cmp = 0; cmp < 6; cmp++) {
-            QueryPushCompiler x = with(3, rows);
+            QueryPushCompiler x = Scenes.with(3, rows);
             int count = 0;
             int[][] want = new int[rows.length][];
             for (int[] row : rows) {
@@ -112,7 +98,7 @@ public final class ListsTest {
             x.filterCols(0, 1, cmp, 2);
             due.list("filterCols " + cmp, x, 1, 3, java.util.Arrays.copyOf(want, count));
         }
-        QueryPushCompiler x = with(2, Due.row(1, 2), Due.row(2, 1));
+        QueryPushCompiler x = Scenes.with(2, Due.row(1, 2), Due.row(2, 1));
         x.filterCols(0, 1, 0, 1);
         due.list("a column with itself", x, 1, 2, Due.row(1, 2), Due.row(2, 1));
     }
@@ -120,7 +106,7 @@ public final class ListsTest {
     private static void mapWorksOutEveryOperation() {
         int[][] rows = {{7, 3}, {-7, 3}, {LOW, -1}, {HIGH, 1}, {HIGH, HIGH}, {LOW, LOW}, {0, LOW}, {65536, 65537}};
         for (int op = 0; op < 5; op++) {
-            QueryPushCompiler x = with(2, rows);
+            QueryPushCompiler x = Scenes.with(2, rows);
             int[][] want = new int[rows.length][];
             for (int i = 0; i < rows.length; i++) {
                 int a = rows[i][1];
@@ -131,7 +117,7 @@ public final class ListsTest {
             x.map(0, op, 1, 0);
             due.list("map " + op, x, 1, 3, want);
         }
-        QueryPushCompiler x = with(2, Due.row(HIGH, 1), Due.row(LOW, 1), Due.row(65536, 65536));
+        QueryPushCompiler x = Scenes.with(2, Due.row(HIGH, 1), Due.row(LOW, 1), Due.row(65536, 65536));
         x.map(0, QueryPushCompiler.ADD, 0, 1);
         x.map(1, QueryPushCompiler.SUB, 0, 1);
         x.map(2, QueryPushCompiler.MUL, 0, 1);
@@ -140,7 +126,7 @@ public final class ListsTest {
     }
 
     private static void mapSeesItsOwnColumn() {
-        QueryPushCompiler x = with(2, Due.row(2, 3), Due.row(5, 4));
+        QueryPushCompiler x = Scenes.with(2, Due.row(2, 3), Due.row(5, 4));
         x.map(0, QueryPushCompiler.MUL, 0, 1);
         x.map(1, QueryPushCompiler.ADD, 2, 2);
         x.map(2, QueryPushCompiler.LEAST, 3, 0);
@@ -149,7 +135,7 @@ public final class ListsTest {
     }
 
     private static void projectChooses() {
-        QueryPushCompiler x = with(3, Due.row(1, 2, 3), Due.row(4, 5, 6));
+        QueryPushCompiler x = Scenes.with(3, Due.row(1, 2, 3), Due.row(4, 5, 6));
         x.project(0, 0_012, 2);
         due.list("the last two, turned round", x, 1, 2, Due.row(3, 2), Due.row(6, 5));
         x.project(1, 0_110010, 6);
@@ -162,8 +148,9 @@ public final class ListsTest {
     }
 
     private static QueryPushCompiler joined(int kind) {
-        QueryPushCompiler x = with(3, Due.row(1, 10, 5), Due.row(2, 20, 6), Due.row(1, 30, 7), Due.row(3, 40, 8));
-        fill(x, 1, Due.row(1, 100), Due.row(3, 300), Due.row(1, 101));
+        QueryPushCompiler x = Scenes.with(3, Due.row(1, 10, 5), Due.row(2, 20, 6), Due.row(1, 30, 7),
+                Due.row(3, 40, 8));
+        Scenes.fill(x, 1, Due.row(1, 100), Due.row(3, 300), Due.row(1, 101));
         x.scan(1);
         due.answer("join", x.join(0, 1, 0, kind), 2);
         return x;
@@ -180,9 +167,9 @@ public final class ListsTest {
     }
 
     private static void joinUsesTheKeyColumnsOfItsSides() {
-        QueryPushCompiler x = with(2, Due.row(5, 1), Due.row(1, 5));
+        QueryPushCompiler x = Scenes.with(2, Due.row(5, 1), Due.row(1, 5));
         x.defineTable(1, 3);
-        fill(x, 1, Due.row(1, 5, 9), Due.row(9, 9, 5), Due.row(5, 1, 1));
+        Scenes.fill(x, 1, Due.row(1, 5, 9), Due.row(9, 9, 5), Due.row(5, 1, 1));
         x.scan(1);
         x.join(0, 1, ~077 | 2 << 3, INNER);
         due.list("left 0, right 2", x, 2, 5, Due.row(5, 1, 9, 9, 5), Due.row(1, 5, 5, 1, 1));
@@ -196,8 +183,8 @@ public final class ListsTest {
     }
 
     private static void semiAndAntiUseTheKeyColumnsOfTheirSides() {
-        QueryPushCompiler x = with(2, Due.row(1, 7), Due.row(2, 8), Due.row(3, 1));
-        fill(x, 1, Due.row(8, 1), Due.row(9, 3));
+        QueryPushCompiler x = Scenes.with(2, Due.row(1, 7), Due.row(2, 8), Due.row(3, 1));
+        Scenes.fill(x, 1, Due.row(8, 1), Due.row(9, 3));
         int semi = x.join(0, x.scan(1), 1 << 3, SEMI);
         due.list("semi, left 0, right 1", x, semi, 2, Due.row(1, 7), Due.row(3, 1));
         int anti = x.join(x.scan(0), x.scan(1), 1 << 3, ANTI);
@@ -208,7 +195,7 @@ public final class ListsTest {
 
     private static void joinWithNothing() {
         for (int kind = 0; kind < 4; kind++) {
-            QueryPushCompiler x = with(2, Due.row(0, 1), Due.row(2, 3));
+            QueryPushCompiler x = Scenes.with(2, Due.row(0, 1), Due.row(2, 3));
             x.scan(1);
             x.join(0, 1, 0, kind);
             String of = "nothing on the right of kind " + kind;
@@ -229,8 +216,8 @@ public final class ListsTest {
 
     /** The second run finds the first one's values where its zeros are due. */
     private static void joinOuterPutsZerosOverOldValues() {
-        QueryPushCompiler x = with(1, Due.row(4), Due.row(5));
-        fill(x, 1, Due.row(4, 40), Due.row(5, 50));
+        QueryPushCompiler x = Scenes.with(1, Due.row(4), Due.row(5));
+        Scenes.fill(x, 1, Due.row(4, 40), Due.row(5, 50));
         x.scan(1);
         x.join(0, 1, 0, OUTER);
         due.list("all match", x, 2, 3, Due.row(4, 4, 40), Due.row(5, 5, 50));
@@ -239,8 +226,8 @@ public final class ListsTest {
     }
 
     private static void unionKeepsBothOrders() {
-        QueryPushCompiler x = with(2, Due.row(2, 1), Due.row(1, 1));
-        fill(x, 1, Due.row(1, 1), Due.row(3, 1), Due.row(0, 1));
+        QueryPushCompiler x = Scenes.with(2, Due.row(2, 1), Due.row(1, 1));
+        Scenes.fill(x, 1, Due.row(1, 1), Due.row(3, 1), Due.row(0, 1));
         x.scan(1);
         x.union(1, 0);
         due.list("right table first", x, 2, 2, Due.row(1, 1), Due.row(3, 1), Due.row(0, 1), Due.row(2, 1),
@@ -260,13 +247,13 @@ public final class ListsTest {
             {{7, 6}, {-2, 5}, {0, HIGH}},
         };
         for (int aggregate = 0; aggregate < 4; aggregate++) {
-            QueryPushCompiler x = with(2, rows);
+            QueryPushCompiler x = Scenes.with(2, rows);
             x.group(0, 0, aggregate, 1);
             due.list("aggregate " + aggregate, x, 1, 2, want[aggregate]);
             due.list("aggregate " + aggregate + " once more", x, 1, 2, want[aggregate]);
         }
         for (int aggregate = 0; aggregate < 4; aggregate++) {
-            QueryPushCompiler x = with(2);
+            QueryPushCompiler x = Scenes.with(2);
             x.group(0, 0, aggregate, 1);
             due.list("of nothing", x, 1, 2);
             x.addRow(0, 0, -4, 0);
@@ -275,13 +262,13 @@ public final class ListsTest {
     }
 
     private static void groupWraps() {
-        QueryPushCompiler x = with(1, Due.row(HIGH), Due.row(HIGH), Due.row(HIGH));
+        QueryPushCompiler x = Scenes.with(1, Due.row(HIGH), Due.row(HIGH), Due.row(HIGH));
         x.group(0, 0, QueryPushCompiler.SUM, 0);
         due.list("sum", x, 1, 2, Due.row(HIGH, HIGH - 2));
     }
 
     private static void groupKeysMayBeValues() {
-        QueryPushCompiler x = with(3, Due.row(9, 1, 2), Due.row(8, 2, 2), Due.row(7, 1, 4));
+        QueryPushCompiler x = Scenes.with(3, Due.row(9, 1, 2), Due.row(8, 2, 2), Due.row(7, 1, 4));
         x.group(0, 2, QueryPushCompiler.SUM, 2);
         due.list("key and value are one column", x, 1, 2, Due.row(2, 4), Due.row(4, 4));
         x.scan(0);
@@ -292,7 +279,7 @@ public final class ListsTest {
     }
 
     private static void distinctLooksAtEveryColumn() {
-        QueryPushCompiler x = with(3, Due.row(1, 1, 1), Due.row(1, 1, 2), Due.row(1, 2, 1), Due.row(1, 1, 1),
+        QueryPushCompiler x = Scenes.with(3, Due.row(1, 1, 1), Due.row(1, 1, 2), Due.row(1, 2, 1), Due.row(1, 1, 1),
                 Due.row(2, 1, 1), Due.row(1, 1, 2), Due.row(2, 1, 1), Due.row(0, 0, 0));
         x.distinct(0);
         due.list("distinct", x, 1, 3, Due.row(1, 1, 1), Due.row(1, 1, 2), Due.row(1, 2, 1), Due.row(2, 1, 1),
@@ -304,7 +291,7 @@ public final class ListsTest {
     }
 
     private static void distinctLooksAtNoColumnOfAnOlderPlan() {
-        QueryPushCompiler x = with(2, Due.row(1, 4), Due.row(1, 5));
+        QueryPushCompiler x = Scenes.with(2, Due.row(1, 4), Due.row(1, 5));
         x.map(0, QueryPushCompiler.ADD, 1, 1);
         due.list("older plan", x, 1, 3, Due.row(1, 4, 8), Due.row(1, 5, 10));
         x.clearPlan();
@@ -320,7 +307,7 @@ public final class ListsTest {
         int[] taken = {0, 0, 0, 1, 2, 3, 3, 3, 3};
         int[][] rows = {{5, 6}, {3, 4}, {1, 2}};
         for (int i = 0; i < asked.length; i++) {
-            QueryPushCompiler x = with(2, rows);
+            QueryPushCompiler x = Scenes.with(2, rows);
             x.limit(0, asked[i]);
             due.list("limit " + asked[i], x, 1, 2, java.util.Arrays.copyOf(rows, taken[i]));
         }
@@ -328,7 +315,7 @@ public final class ListsTest {
 
     private static void sortIsStable() {
         int[][] rows = {{2, 1}, {1, 2}, {2, 3}, {3, 4}, {1, 5}, {2, 6}};
-        QueryPushCompiler x = with(2, rows);
+        QueryPushCompiler x = Scenes.with(2, rows);
         x.sort(0, 0, false);
         due.list("ascending", x, 1, 2, Due.row(1, 2), Due.row(1, 5), Due.row(2, 1), Due.row(2, 3), Due.row(2, 6),
                 Due.row(3, 4));
@@ -345,7 +332,7 @@ public final class ListsTest {
     }
 
     private static void sortIsSigned() {
-        QueryPushCompiler x = with(1, Due.row(0), Due.row(HIGH), Due.row(-1), Due.row(LOW), Due.row(1));
+        QueryPushCompiler x = Scenes.with(1, Due.row(0), Due.row(HIGH), Due.row(-1), Due.row(LOW), Due.row(1));
         x.sort(0, 0, false);
         due.list("ascending", x, 1, 1, Due.row(LOW), Due.row(-1), Due.row(0), Due.row(1), Due.row(HIGH));
         x.sort(1, 0, true);
@@ -354,7 +341,7 @@ public final class ListsTest {
 
     /** Two nodes of a kind in one plan, made with different arguments, and one more plan over their leftovers. */
     private static void everyNodeKeepsWhatItWasMadeWith() {
-        QueryPushCompiler x = with(2, Due.row(1, 4), Due.row(2, 3), Due.row(3, 2));
+        QueryPushCompiler x = Scenes.with(2, Due.row(1, 4), Due.row(2, 3), Due.row(3, 2));
         x.filter(0, 0, 4, 1);
         x.filter(1, 1, 4, 2);
         x.scan(0);

@@ -1,12 +1,18 @@
 /** Many runs of made-up calls, always the same ones, on the class and on the model beside each other. */
 public final class ModelTest {
-    private static final int OBJECTS = 6000;
-    private static final int CALLS = 160;
+    private static final int OBJECTS = 12000;
+    /** What an object answers after this many calls is free. */
+    private static final int CALLS = 512;
+    private static final int CELLS_READ = 8;
+    private static final int MOST_OF_A_STEP = 3 + CELLS_READ;
+    /** A run, its result, of at most 24 rows of 6, with the cells around it, and the counts. */
+    private static final int MOST_OF_THE_END = 1 + 26 * 8 + 2 + 14 + 6;
     private static final int[] ODD = {-1, 6, 7, 12, Integer.MIN_VALUE, Integer.MAX_VALUE};
 
     private static final Due due = new Due();
     private static long state = 20261115;
     private static int nodes;
+    private static int calls;
     private static int refusedRuns;
     private static final int[] made = new int[19];
     private static int goodRuns;
@@ -17,9 +23,12 @@ public final class ModelTest {
             QueryPushCompiler x = new QueryPushCompiler(tables);
             Model m = new Model(tables);
             nodes = 0;
-            for (int call = 0; call < CALLS; call++) {
-                step(x, m, "object " + object + ", call " + call);
+            calls = 0;
+            while (calls + MOST_OF_A_STEP + MOST_OF_THE_END <= CALLS) {
+                step(x, m, "object " + object + ", call " + calls);
             }
+            due.answer("last run of object " + object, x.run(nodes - 1), m.run(nodes - 1));
+            compareAll(x, m, "end of object " + object);
         }
         for (int kind = 6; kind <= 16; kind++) {
             due.isTrue("kind " + kind + " was made often: " + made[kind], made[kind] > 1000);
@@ -86,22 +95,39 @@ public final class ModelTest {
             goodRuns += got > 0 ? 1 : 0;
             refusedRuns += got == QueryPushCompiler.TOO_BIG ? 1 : 0;
         }
-        compare(x, m, call);
+        calls++;
+        if (kind == 17) {
+            compareSome(x, m, call);
+        }
     }
 
-    private static void compare(QueryPushCompiler x, Model m, String call) {
-        due.answer(call, x.resultRows(), m.resultRows());
-        due.answer(call, x.resultWidth(), m.resultWidth());
+    private static void compareSome(QueryPushCompiler x, Model m, String where) {
+        compareSize(x, m, where);
+        for (int i = 0; i < CELLS_READ; i++) {
+            int row = pick(m.resultRows() + 2) - 1;
+            int column = pick(m.resultWidth() + 2) - 1;
+            due.answer(where + ", a cell", x.cell(row, column), m.cell(row, column));
+        }
+        calls += 2 + CELLS_READ;
+    }
+
+    private static void compareSize(QueryPushCompiler x, Model m, String where) {
+        due.answer(where + ", resultRows", x.resultRows(), m.resultRows());
+        due.answer(where + ", resultWidth", x.resultWidth(), m.resultWidth());
+    }
+
+    private static void compareAll(QueryPushCompiler x, Model m, String where) {
+        compareSize(x, m, where);
         for (int row = -1; row <= m.resultRows(); row++) {
             for (int column = -1; column <= m.resultWidth(); column++) {
-                due.answer(call, x.cell(row, column), m.cell(row, column));
+                due.answer(where + ", a cell", x.cell(row, column), m.cell(row, column));
             }
         }
         for (int node = -1; node <= 12; node++) {
-            due.answer(call, x.width(node), m.width(node));
+            due.answer(where + ", width", x.width(node), m.width(node));
         }
         for (int table = -1; table <= 4; table++) {
-            due.answer(call, x.tableRows(table), m.tableRows(table));
+            due.answer(where + ", tableRows", x.tableRows(table), m.tableRows(table));
         }
     }
 

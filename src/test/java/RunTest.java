@@ -28,22 +28,8 @@ public final class RunTest {
         due.end();
     }
 
-    /** Tables 0 and 1 have so many rows, (0, index) each, and are scanned by nodes 0 and 1. */
-    private static QueryPushCompiler sized(int left, int right) {
-        QueryPushCompiler x = new QueryPushCompiler(2);
-        for (int row = 0; row < left; row++) {
-            x.addRow(0, 0, row, 0);
-        }
-        for (int row = 0; row < right; row++) {
-            x.addRow(1, 0, row, 0);
-        }
-        x.scan(0);
-        x.scan(1);
-        return x;
-    }
-
     private static void runRefusesNoNode() {
-        QueryPushCompiler x = sized(1, 2);
+        QueryPushCompiler x = Scenes.sized(1, 2);
         due.list("run", x, 1, 2, Due.row(0, 0), Due.row(0, 1));
         for (int none : new int[] {2, -1, 11, 12, LOW, HIGH}) {
             due.answer("run of none", x.run(none), QueryPushCompiler.BAD_NODE);
@@ -52,7 +38,7 @@ public final class RunTest {
     }
 
     private static void aChildMayBeRun() {
-        QueryPushCompiler x = sized(3, 2);
+        QueryPushCompiler x = Scenes.sized(3, 2);
         x.limit(0, 1);
         x.union(2, 1);
         due.list("whole", x, 3, 2, Due.row(0, 0), Due.row(0, 0), Due.row(0, 1));
@@ -63,7 +49,7 @@ public final class RunTest {
     }
 
     private static void theResultStays() {
-        QueryPushCompiler x = sized(2, 0);
+        QueryPushCompiler x = Scenes.sized(2, 0);
         int[][] want = {{0, 0}, {0, 1}};
         due.list("run", x, 0, 2, want);
         x.setCell(0, 0, 0, 99);
@@ -84,21 +70,21 @@ public final class RunTest {
     }
 
     private static void aRefusedRunKeepsTheOldResult() {
-        QueryPushCompiler x = sized(5, 5);
+        QueryPushCompiler x = Scenes.sized(5, 5);
         x.limit(1, 1);
         due.list("run", x, 2, 2, Due.row(0, 0));
         x.scan(1);
         x.join(0, 3, 0, INNER);
         due.answer("a run that is TOO_BIG", x.run(4), TOO_BIG);
         due.result("the old result stays", x, 2, Due.row(0, 0));
-        QueryPushCompiler first = sized(5, 5);
+        QueryPushCompiler first = Scenes.sized(5, 5);
         first.join(0, 1, 0, INNER);
         due.answer("a first run that is TOO_BIG", first.run(2), TOO_BIG);
         due.result("there is none still", first, 0);
     }
 
     private static void aNewResultReplacesAllOfTheOldOne() {
-        QueryPushCompiler x = sized(4, 1);
+        QueryPushCompiler x = Scenes.sized(4, 1);
         x.map(0, QueryPushCompiler.ADD, 1, 1);
         due.list("4 rows of 3", x, 2, 3, Due.row(0, 0, 0), Due.row(0, 1, 2), Due.row(0, 2, 4), Due.row(0, 3, 6));
         due.list("1 row of 2", x, 1, 2, Due.row(0, 0));
@@ -137,12 +123,12 @@ public final class RunTest {
                 due.answer("outer" + of, join(left, right, OUTER), outer > 24 ? TOO_BIG : outer);
                 due.answer("semi" + of, join(left, right, SEMI), right == 0 ? 0 : left);
                 due.answer("anti" + of, join(left, right, ANTI), right == 0 ? left : 0);
-                QueryPushCompiler x = sized(left, right);
+                QueryPushCompiler x = Scenes.sized(left, right);
                 x.union(0, 1);
                 due.answer("union" + of, x.run(2), left + right);
             }
         }
-        QueryPushCompiler x = sized(10, 4);
+        QueryPushCompiler x = Scenes.sized(10, 4);
         x.scan(0);
         x.union(0, 2);
         x.union(3, 1);
@@ -153,7 +139,7 @@ public final class RunTest {
     }
 
     private static int join(int left, int right, int kind) {
-        QueryPushCompiler x = sized(left, right);
+        QueryPushCompiler x = Scenes.sized(left, right);
         x.join(0, 1, 0, kind);
         return x.run(2);
     }
@@ -193,7 +179,7 @@ public final class RunTest {
     /** Each of these lists is shorter than its child's, but its bound is not. */
     private static void boundOfOneChildIsTheChilds() {
         for (int kind = 0; kind < 8; kind++) {
-            QueryPushCompiler x = sized(5, 5);
+            QueryPushCompiler x = Scenes.sized(5, 5);
             due.answer("kind " + kind, oneChild(x, kind, 0), 2);
             due.isTrue("not TOO_BIG alone", x.run(2) >= 0);
             x.join(2, 1, 0, INNER);
@@ -201,7 +187,7 @@ public final class RunTest {
             x.dropRow(1, 0);
             due.isTrue("5 times 4", x.run(3) >= 0);
         }
-        QueryPushCompiler x = sized(5, 5);
+        QueryPushCompiler x = Scenes.sized(5, 5);
         x.filter(1, 0, 1, 0);
         x.join(0, 2, 0, OUTER);
         due.answer("outer of an empty list whose bound is 5", x.run(3), TOO_BIG);
@@ -223,21 +209,21 @@ public final class RunTest {
     }
 
     private static void boundOfLimit() {
-        QueryPushCompiler x = sized(10, 10);
+        QueryPushCompiler x = Scenes.sized(10, 10);
         x.limit(0, 2);
         x.join(2, 1, 0, INNER);
         due.answer("2 times 10", x.run(3), 20);
-        QueryPushCompiler three = sized(10, 10);
+        QueryPushCompiler three = Scenes.sized(10, 10);
         three.limit(0, 3);
         three.join(2, 1, 0, INNER);
         due.answer("3 times 10", three.run(3), TOO_BIG);
-        QueryPushCompiler none = sized(10, 10);
+        QueryPushCompiler none = Scenes.sized(10, 10);
         none.limit(1, -5);
         none.join(0, 2, 0, OUTER);
         due.answer("10 times 1 for a limit of none", none.run(3), 10);
         none.dropRow(0, 0);
         due.answer("9 times 1", none.run(3), 9);
-        QueryPushCompiler negative = sized(10, 10);
+        QueryPushCompiler negative = Scenes.sized(10, 10);
         negative.limit(0, LOW);
         negative.scan(1);
         negative.union(1, 3);
@@ -250,7 +236,7 @@ public final class RunTest {
 
     /** Node 2 is TOO_BIG, node 3 has no rows. */
     private static QueryPushCompiler tooBig() {
-        QueryPushCompiler x = sized(5, 5);
+        QueryPushCompiler x = Scenes.sized(5, 5);
         x.join(0, 1, 0, INNER);
         x.project(2, 0, 2);
         x.scan(0);
@@ -297,7 +283,7 @@ public final class RunTest {
     }
 
     private static void theBoundIsThatOfNow() {
-        QueryPushCompiler x = sized(4, 6);
+        QueryPushCompiler x = Scenes.sized(4, 6);
         x.join(0, 1, 0, INNER);
         due.answer("4 times 6", x.run(2), 24);
         x.addRow(0, 1, 1, 1);

@@ -3,18 +3,26 @@ import java.util.Arrays;
 /** Counts and prints the answers that are not the ones that are due. */
 final class Due {
     private int wrong = 0;
+    private int sentences = 0;
+    private String about = "";
+
+    /** The answers from here on are those that these words of the document ask for. */
+    void sentence(String where, String words) {
+        sentences++;
+        about = where + ", \"" + words + "\": ";
+    }
 
     void answer(String call, long got, long want) {
         if (got != want) {
             wrong++;
-            System.out.println(call + " answered " + got + ", due is " + want);
+            System.out.println(about + call + " answered " + got + ", due is " + want);
         }
     }
 
     void isTrue(String claim, boolean holds) {
         if (!holds) {
             wrong++;
-            System.out.println("does not hold: " + claim);
+            System.out.println(about + "does not hold: " + claim);
         }
     }
 
@@ -38,7 +46,8 @@ final class Due {
     }
 
     void end() {
-        System.out.println(wrong == 0 ? "all answers are as due" : wrong + " answers are not as due");
+        String of = sentences == 0 ? "" : ", of " + sentences + " sentences";
+        System.out.println(wrong == 0 ? "all answers are as due" + of : wrong + " answers are not as due" + of);
         if (wrong != 0) {
             System.exit(1);
         }

@@ -4,7 +4,7 @@ import java.util.LinkedHashMap;
 import java.util.List;
 import java.util.Map;
 
-/** The document once more, with lists and recursion and as close to its words as can be: what the class is held against. */
+/** The document once more, with lists and recursion and close to its words: what the class is held against. */
 final class Model {
     private static final class Table {
         int width = 2;
