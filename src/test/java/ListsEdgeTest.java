@@ -137,9 +137,9 @@ public final class ListsEdgeTest {
         due.list("all of 24", x, 5, 2, Scenes.rows(24, i -> Due.row(i, 5)));
         x.filterCols(5, 0, 3, 1);
         due.list("up to 5", x, 6, 2, Scenes.rows(6, i -> Due.row(i, 5)));
-        x.filterCols(6, 0, 0, 1);
-        due.list("5 alone", x, 7, 2, Due.row(5, 5));
-        x.filterCols(7, 1, 4, 0);
+        x.filterCols(6, 1, 4, 0);
+        due.list("below 5", x, 7, 2, Scenes.rows(5, i -> Due.row(i, 5)));
+        x.filterCols(7, 0, 0, 1);
         due.list("none", x, 8, 2);
     }
 
@@ -292,6 +292,12 @@ public final class ListsEdgeTest {
         due.list("no left", joined(OUTER, NONE, MIXED), 2, 4);
         due.list("no right", joined(OUTER, ZEROS, NONE), 2, 4, Due.row(0, 1, 0, 0), Due.row(0, 2, 0, 0));
         due.list("neither", joined(OUTER, NONE, NONE), 2, 4);
+        QueryPushCompiler x = joined(OUTER, ZEROS, new int[][] {{0, 9}});
+        due.list("both match now", x, 2, 4, Due.row(0, 1, 0, 9), Due.row(0, 2, 0, 9));
+        x.setCell(0, 1, 0, -1);
+        due.list("one matches no longer", x, 2, 4, Due.row(0, 1, 0, 9), Due.row(-1, 2, 0, 0));
+        x.setCell(1, 0, 0, 8);
+        due.list("neither does", x, 2, 4, Due.row(0, 1, 0, 0), Due.row(-1, 2, 0, 0));
     }
 
     private static void joinKeysAtTheEnds() {

@@ -468,9 +468,12 @@ public final class PlanEdgeTest {
                 "The left key column is keys & 7, the right one (keys >> 3) & 7; other bits are not looked at.");
         for (int high : new int[] {0, 1 << 6, 7 << 6, ~077, LOW}) {
             QueryPushCompiler x = Scenes.usual();
-            due.answer("join with high bits " + high, x.join(0, 1, high | 2 << 3 | 1, SEMI), 6);
             x.setCell(1, 1, 2, 7);
-            due.list("join with high bits " + high, x, 6, 2, Due.row(-6, 7));
+            due.answer("semi with high bits " + high, x.join(0, 1, high | 2 << 3 | 1, SEMI), 6);
+            due.list("semi with high bits " + high, x, 6, 2, Due.row(-6, 7));
+            x.scan(1);
+            due.answer("inner with high bits " + high, x.join(3, 7, high | 2 << 3 | 1, INNER), 8);
+            due.list("inner with high bits " + high, x, 8, 5, Due.row(-6, 7, 4, 5, 7));
         }
     }
 
