@@ -405,6 +405,7 @@ public final class RunEdgeTest {
         unchanged(Scenes::usual, "cell(1, 0)", x -> x.cell(1, 0), -6);
         unchanged(Scenes::usual, "cell(2, 0)", x -> x.cell(2, 0), 0);
         unchanged(Scenes::usual, "cell(-1, 2)", x -> x.cell(-1, 2), 0);
+        unchanged(Scenes::usual, "width(2), of a child", x -> x.width(2), 2);
         unchanged(Scenes::usual, "width(5)", x -> x.width(5), 6);
         unchanged(Scenes::usual, "width(6)", x -> x.width(6), BAD_NODE);
         unchanged(Scenes::usual, "tableRows(2)", x -> x.tableRows(2), 10);
