@@ -402,6 +402,7 @@ public final class TablesEdgeTest {
         due.answer("none is left", x.dropRow(2, 0), BAD_ROW);
     }
 
+    /** Where there is no such table or no such row, the sentence names no row that is taken out. */
     private static void dropRowRefusedChangesNothing() {
         due.sentence("Promise 5", "No such table: BAD_TABLE; no such row: BAD_ROW; else");
         refused("a row that would be the next table's", x -> x.dropRow(0, 10), BAD_ROW);
